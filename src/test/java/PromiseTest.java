@@ -1,5 +1,5 @@
-// The promises one by one, with answers worked out by hand from the document. Those for the 13 primes of
-// load(27581, 0) are too many for that: they were taken from the class, and ModelTest checks the same load.
+// The promises one by one, with answers worked out by hand from the document. How those for the 13 primes of
+// load(27581, 0) come about is said in EdgeTest.
 public final class PromiseTest {
   private static final int MIN = Integer.MIN_VALUE;
   private static final int MAX = Integer.MAX_VALUE;
