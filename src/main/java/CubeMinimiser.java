@@ -147,7 +147,7 @@ public final class CubeMinimiser {
     }
 
     public int covers(int set) {
-        if (set < 0 || set > allPrimes()) {
+        if (set < 0 || set >= endOfSets()) {
             return -1;
         }
         return isCover(set) ? 1 : 0;
@@ -156,9 +156,9 @@ public final class CubeMinimiser {
     public int shortest() {
         int cover = findBestCover();
         int members = countMembers(cover);
-        int last = allPrimes();
+        int end = endOfSets();
         int found = 0;
-        for (int set = 0; set <= last; set++) {
+        for (int set = 0; set < end; set++) {
             if (isCover(set) && countMembers(set) == members) {
                 found++;
             }
@@ -170,10 +170,10 @@ public final class CubeMinimiser {
         if (!isPrimeNumber(i)) {
             return -1;
         }
-        int last = allPrimes();
+        int end = endOfSets();
         // The set of all primes is a cover with every prime in it, so the least is at most its size.
         int least = primeCount;
-        for (int set = 0; set <= last; set++) {
+        for (int set = 0; set < end; set++) {
             if (hasMember(set, i) && isCover(set)) {
                 int members = countMembers(set);
                 least = members < least ? members : least;
@@ -310,6 +310,7 @@ public final class CubeMinimiser {
     private void findPrimes() {
         primeCount = 0;
         for (int cube = 0; cube < CUBES; cube++) {
+            // There are never more, but only this guard shows that the index is good.
             if (primeCount < MAX_PRIMES && isPrime(cube)) {
                 primeCubes[primeCount] = cube;
                 primeCount++;
@@ -317,8 +318,13 @@ public final class CubeMinimiser {
         }
     }
 
+    // The first number beyond the sets of primes: a loop that stops below it ends whatever it is.
+    private int endOfSets() {
+        return 1 << primeCount;
+    }
+
     private int allPrimes() {
-        return (1 << primeCount) - 1;
+        return endOfSets() - 1;
     }
 
     private boolean isCover(int set) {

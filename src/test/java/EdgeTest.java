@@ -373,6 +373,34 @@ public final class EdgeTest {
     due("a ring: bestCover()", x.bestCover(), 25);
   }
 
+  // "It is a COVER if every row that is on is in one of its cubes": every set of the given primes, from none to all.
+  private static void everySet(int ons, int opens, int... cubes) {
+    int end = 1 << cubes.length;
+    CubeMinimiser x = null;
+    for (int set = 0; set < end; set++) {
+      // No object is used for more than 512 calls.
+      if (set % 500 == 0) x = loaded(ons, opens);
+      int rows = 0;
+      for (int i = 0; i < cubes.length; i++) if ((set >> i & 1) == 1) rows |= rowsOf(cubes[i]);
+      String call = "load(" + ons + ", " + opens + "): covers(" + set + ")";
+      due(call, x.covers(set), (ons & ~rows) == 0 ? 1 : 0);
+    }
+    due("load(" + ons + ", " + opens + "): covers(" + end + ")", loaded(ons, opens).covers(end), -1);
+  }
+
+  private static void coversEverySet() {
+    everySet(0, 0);
+    everySet(65535, 0, 80);
+    everySet(126, 0, 5, 7, 11, 15, 19, 21);
+    everySet(6, 120, 5, 7, 11, 15, 19, 21);
+    everySet(0, 126, 5, 7, 11, 15, 19, 21);
+    everySet(3901, 0, 11, 18, 35, 59, 60);
+    everySet(3869, 32, 11, 18, 35, 59, 60);
+    everySet(8194, 65535 - 8194 - 256 - 2048, 26, 71, 73, 75);
+    everySet(MOST_PRIMES, 0, MOST);
+    everySet(16384 + 1, MOST_PRIMES, MOST);
+  }
+
   // "A prime is NEEDED if it is in every cover": it is while a row is on that no other prime has.
   private static void neededByOneRow() {
     // Rows 0, 1 and 3: the primes 0002 (rows 0, 1) and 0021 (rows 1, 3).
@@ -423,6 +451,7 @@ public final class EdgeTest {
     fewerMembersWithTheSameLength();
     lesserLengthBeforeNumbers();
     lesserNumberLast();
+    coversEverySet();
     neededByOneRow();
     freeToTheLastPair();
     System.out.println(wrong == 0 ? "all answers are as due" : wrong + " answers are not as due");

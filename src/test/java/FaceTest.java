@@ -27,13 +27,13 @@ public final class FaceTest {
         continue;
       }
       openNames.add(m.getName());
-      open.add(Modifier.toString(m.getModifiers()) + " " + m.getReturnType() + " " + m.getName() + "/" + m.getParameterCount());
+      open.add(m.toGenericString());
     }
     Set<String> want = new TreeSet<>();
-    for (String face : new String[] {"set/2", "fill/2", "load/2", "invert/0", "row/1", "size/1", "allowed/1", "primes/0",
-        "prime/1", "primesWith/1", "needed/0", "best/0", "bestLength/0", "bestCover/0", "covers/1", "shortest/0",
-        "bestWith/1", "free/1"}) {
-      want.add("public int " + face);
+    for (String face : new String[] {"set(int,int)", "fill(int,int)", "load(int,int)", "invert()", "row(int)", "size(int)",
+        "allowed(int)", "primes()", "prime(int)", "primesWith(int)", "needed()", "best()", "bestLength()", "bestCover()",
+        "covers(int)", "shortest()", "bestWith(int)", "free(int)"}) {
+      want.add("public int CubeMinimiser." + face);
     }
     due("the set of methods that are not private", open, want);
     hiddenNames.retainAll(openNames);

@@ -8,7 +8,8 @@ import java.util.function.ToIntFunction;
 
 // "No question changes anything. A refused call changes nothing." An object is given a refused call or a question;
 // all that any later call shows, at once and after each kind of change, must be what new objects show that were
-// changed in the same way but never given a refused call or another question.
+// changed in the same way but never given a refused call or another question. Nor does a call on one object change
+// another.
 public final class UnchangedTest {
   private static final int MIN = Integer.MIN_VALUE;
   private static final int MAX = Integer.MAX_VALUE;
@@ -166,6 +167,24 @@ public final class UnchangedTest {
     }
   }
 
+  // Two objects used in turn: what one is told changes nothing of the other.
+  private static void twoObjects(int[] state, int[] otherState) {
+    List<Integer> want = everything(() -> inState(state));
+    for (String then : later.keySet()) {
+      String what = "load(" + state[0] + ", " + state[1] + "), and on another object load(" + otherState[0] + ", "
+          + otherState[1] + "), " + then;
+      CubeMinimiser before = inState(otherState);
+      CubeMinimiser x = inState(state);
+      CubeMinimiser after = inState(otherState);
+      changed(before, then);
+      changed(after, then);
+      List<Integer> wantOther = everything(() -> changed(inState(otherState), then));
+      wrongIf(!everything(() -> x).equals(want), what + ": the first object was changed");
+      wrongIf(!everything(() -> before).equals(wantOther), what + ": the other, made before, is not as due");
+      wrongIf(!everything(() -> after).equals(wantOther), what + ": the other, made after, is not as due");
+    }
+  }
+
   public static void main(String[] args) {
     refusedChanges();
     refusedQuestions();
@@ -174,6 +193,7 @@ public final class UnchangedTest {
     for (int[] state : STATES) {
       changesNothing(state, refused, true);
       changesNothing(state, questions, false);
+      for (int[] otherState : STATES) twoObjects(state, otherState);
     }
     System.out.println(wrong == 0 ? "nothing was changed" : wrong + " answers are not as due");
     if (wrong != 0) System.exit(1);
